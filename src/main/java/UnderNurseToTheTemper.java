@@ -295,7 +295,7 @@ public final class UnderNurseToTheTemper {
     }
 
     public int judge(int s, int n) {
-        int fault = elementsFault(s, n, MOST_ELEMENTS, true);
+        int fault = elementsFault(s, n, MOST_ELEMENTS, 1, true);
         if (fault != FINE) {
             return refused(fault);
         }
@@ -765,14 +765,12 @@ public final class UnderNurseToTheTemper {
         return shelves.holdsRow(s) ? FINE : NOTHING;
     }
 
-    private int elementsFault(int s, int n, int most, boolean othersFit) {
+    private int elementsFault(int s, int n, int most, int each, boolean othersFit) {
         int fault = rowFault(s, othersFit && isWithin(n, 0, most));
         if (fault != FINE) {
             return fault;
         }
-        // ROWS of twos are the ones that are told with the lesser bound.
-        int wanted = most == MOST_TWOS ? 2 * n : n;
-        return shelves.hasStretch(s, 0, wanted) ? FINE : BAD;
+        return shelves.hasStretch(s, 0, n * each) ? FINE : BAD;
     }
 
     private static boolean isWithin(int v, int least, int most) {
@@ -823,7 +821,7 @@ public final class UnderNurseToTheTemper {
     }
 
     private int takeRoster(int s, int n, boolean othersFit) {
-        int fault = elementsFault(s, n, MOST_ELEMENTS, othersFit);
+        int fault = elementsFault(s, n, MOST_ELEMENTS, 1, othersFit);
         if (fault != FINE) {
             return fault;
         }
@@ -835,7 +833,7 @@ public final class UnderNurseToTheTemper {
     }
 
     private int takeTwos(int s, int n, boolean othersFit) {
-        int fault = elementsFault(s, n, MOST_TWOS, othersFit);
+        int fault = elementsFault(s, n, MOST_TWOS, 2, othersFit);
         if (fault != FINE) {
             return fault;
         }
