@@ -1,83 +1,5 @@
 /** For each promise of the document its ordinary inputs, its edges and its refusals, worked out by hand. */
-public final class PromisesTest {
-    private static final int NONE = -1;
-    private static final int BAD = -2;
-    private static final int OTHER = -3;
-    private static final int NOTHING = -4;
-    private static final int STUCK = -5;
-    private static final int FULL = -6;
-    private static final int MEETING = 10;
-    private static final int LOW = Integer.MIN_VALUE;
-    private static final int HIGH = Integer.MAX_VALUE;
-
-    private static int wrong = 0;
-    private static int promise = 0;
-
-    private static void due(String call, long got, long want) {
-        if (got != want) {
-            wrong++;
-            System.out.println("promise " + promise + ": " + call + " answered " + got + ", due is " + want);
-        }
-    }
-
-    private static UnderNurseToTheTemper fresh() {
-        return new UnderNurseToTheTemper();
-    }
-
-    /** One KEEPER of each KIND by its number; FRIGHT is 16; 2, 3, 4 and 5 STAY. */
-    private static UnderNurseToTheTemper six() {
-        UnderNurseToTheTemper x = fresh();
-        x.keeper(0, 5, 12);
-        x.keeper(1, 4, 10);
-        x.keeper(2, 3, 20);
-        x.keeper(3, 2, 0);
-        x.keeper(4, 6, 9);
-        x.keeper(5, 7, 30);
-        put(x, 44, 70, 2, 50, 8);
-        return x;
-    }
-
-    /** One KEEPER alone. */
-    private static UnderNurseToTheTemper one(int kind, int a, int nerve) {
-        UnderNurseToTheTemper x = fresh();
-        x.keeper(kind, a, nerve);
-        return x;
-    }
-
-    private static void put(UnderNurseToTheTemper x, int rage, int calm, int growth, int bar, int hour) {
-        x.tell(0, rage);
-        x.tell(1, calm);
-        x.tell(2, growth);
-        x.tell(3, bar);
-        x.tell(4, hour);
-    }
-
-    private static void lay(UnderNurseToTheTemper x, int s, int sort, long... elements) {
-        x.row(s, sort, elements.length);
-        for (int i = 0; i < elements.length; i++) {
-            x.set(s, i, elements[i]);
-        }
-    }
-
-    private static int read(UnderNurseToTheTemper x, String text) {
-        x.wipe();
-        for (int i = 0; i < text.length(); i++) {
-            x.feed(text.charAt(i));
-        }
-        return x.house();
-    }
-
-    private static String measures(UnderNurseToTheTemper x) {
-        return x.status(1) + " " + x.status(2) + " " + x.status(3) + " " + x.status(4) + " " + x.status(5);
-    }
-
-    private static void dueMeasures(String when, UnderNurseToTheTemper x, String want) {
-        if (!measures(x).equals(want)) {
-            wrong++;
-            System.out.println("promise " + promise + ": " + when + " " + measures(x) + ", due is " + want);
-        }
-    }
-
+public final class PromisesTest extends Bench {
     private static void p01() {
         UnderNurseToTheTemper x = fresh();
         int[] want = {0, 20, 60, 1, 50, 0, 0, 0, 1, 0, NONE, NONE, 0, 0, 0, 0, 0, NONE};
@@ -1037,8 +959,8 @@ public final class PromisesTest {
 
     /** A quarter of what is above can't pass the middle, so only where none is above there is an end. */
     private static void meetingsThatEnd() {
-        UnderNurseToTheTemper x = fresh();
         for (int rage = 0; rage <= 99; rage += 11) {
+            UnderNurseToTheTemper x = fresh();
             for (int calm = 0; calm <= 99; calm += 9) {
                 put(x, rage, calm, 1, 50, 0);
                 due("RAGE " + rage + " CALM " + calm, x.meetings(), rage <= calm ? 0 : NONE);
@@ -1457,13 +1379,10 @@ public final class PromisesTest {
             PromisesTest::p45, PromisesTest::p46, PromisesTest::p47, PromisesTest::p48, PromisesTest::p49,
             PromisesTest::p50, PromisesTest::p51, PromisesTest::p52, PromisesTest::p53, PromisesTest::p54,
             PromisesTest::p55, PromisesTest::p56};
-        for (Check check : checks) {
-            promise++;
-            check.run();
+        for (int i = 0; i < checks.length; i++) {
+            sentence("promise " + (i + 1));
+            checks[i].run();
         }
-        System.out.println(wrong == 0 ? promise + " promises hold" : wrong + " answers are not as due");
-        if (wrong != 0) {
-            System.exit(1);
-        }
+        finish(checks.length + " promises");
     }
 }
