@@ -57,6 +57,8 @@ public final class UnderNurseToTheTemper {
     private static final int MOST_CHANCE_HOURS = 3;
     private static final int MOST_DRAWN = 60;
     private static final int REFUSAL_SORTS = 5;
+    /** Where the least of something is looked for, it begins above all that can be found. */
+    private static final int MORE_THAN_ANY = 1000000;
 
     private final Temper now = new Temper();
     private final Temper trial = new Temper();
@@ -258,7 +260,7 @@ public final class UnderNurseToTheTemper {
             return refused(BAD);
         }
         int chosen = NONE;
-        int lowest = Integer.MAX_VALUE;
+        int lowest = MORE_THAN_ANY;
         for (int i = 0; i < orderCount(); i++) {
             tryHour(staff.orderAt(i));
             int worth = what == CALM ? -trial.calm : trial.measure(what);
@@ -351,7 +353,7 @@ public final class UnderNurseToTheTemper {
             return NONE;
         }
         int chosen = NONE;
-        int fewest = Integer.MAX_VALUE;
+        int fewest = MORE_THAN_ANY;
         for (int k = 0; k < staff.count; k++) {
             int left = mostLeftBy(k);
             if (left < fewest) {
@@ -510,7 +512,7 @@ public final class UnderNurseToTheTemper {
             return refused(STUCK);
         }
         int chosen = NONE;
-        int fewest = Integer.MAX_VALUE;
+        int fewest = MORE_THAN_ANY;
         for (int k = 0; k < staff.count; k++) {
             walkTurns(k, DAY);
             if (walk.harmCount < fewest) {
@@ -578,7 +580,7 @@ public final class UnderNurseToTheTemper {
             return refused(fault);
         }
         int chosen = NONE;
-        int least = Integer.MAX_VALUE;
+        int least = MORE_THAN_ANY;
         for (int i = 0; i < orderCount(); i++) {
             int left = rageWith(n, place, staff.orderAt(i));
             if (left < least) {
@@ -998,8 +1000,6 @@ public final class UnderNurseToTheTemper {
             growth = other.growth;
             bar = other.bar;
             hour = other.hour;
-            harm = other.harm;
-            fledKeeper = other.fledKeeper;
         }
 
         boolean isLike(Temper other) {

@@ -264,6 +264,12 @@ public final class HouseEdgesTest extends Bench {
         faulty("bar 9;bar 8;", 12);
         right("bar1" + ";bar2".repeat(49) + " ", 50, "20 60 1 2 0");
         sentence("keeper K A N; nerve X N; rage N; calm N; grown N; bar N; hour N");
+        for (String word : new String[] {"keeper", "nerve", "rage", "calm", "grown", "bar", "hour"}) {
+            faulty("x" + word.substring(1) + " 1 1 1", 0);
+            faulty(word.substring(0, word.length() - 1) + "x 1 1 1", 0);
+            faulty(word.substring(1) + " 1 1 1", 0);
+            faulty(word + "x 1 1 1", 0);
+        }
         faulty("keepe 0 0 0", 0);
         faulty("keepers 0 0 0", 0);
         faulty("growth 1", 0);

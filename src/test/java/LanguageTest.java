@@ -86,7 +86,7 @@ public final class LanguageTest {
         hold(!code.contains("->") && !code.contains("::"), "a lambda, a reference or an arrow");
         hold(!Pattern.compile("\\w+Exact\\b").matcher(code).find(), "a function whose name ends in Exact");
         Matcher library = Pattern.compile("\\b(Math|Integer|Long|System|Arrays)\\.(\\w+)").matcher(code);
-        Set<String> allowed = Set.of("max", "min", "arraycopy", "MAX_VALUE");
+        Set<String> allowed = Set.of("max", "min", "arraycopy");
         while (library.find()) {
             hold(allowed.contains(library.group(2)), library.group() + " is not looked after here");
         }

@@ -141,6 +141,9 @@ public final class RosterEdgesTest extends Bench {
         x.keeper(3, 0, 0);
         due("KEEPERS are there", x.judge(1, 4), NONE);
         due("none of none", x.judge(1, 0), NONE);
+        x.set(1, 0, 9);
+        due("the first place", x.judge(1, 4), 0);
+        due("the first place of one", x.judge(1, 1), 0);
         dueRefusals("NONE isn't refused, nor is a place", x, "0 0 0 0 0");
     }
 
@@ -360,7 +363,11 @@ public final class RosterEdgesTest extends Bench {
             y.keeper(0, k == 7 ? 2 : 1, 40);
         }
         put(y, 60, 90, 1, 99, 1);
+        due("another house", y.best(1, NONE), 58);
         due("the last of eight, four times", y.best(4, NONE), 52);
+        put(y, 70, 99, 1, 99, 1);
+        due("more RAGE than there was", y.best(4, NONE), 62);
+        put(y, 60, 90, 1, 99, 1);
         for (int i = 0; i < 4; i++) {
             due("ORDER " + i, y.best(4, i), 7);
         }
@@ -507,6 +514,16 @@ public final class RosterEdgesTest extends Bench {
         due("52 and 48", y.send(0, 0), 1);
         y.tell(3, 51);
         due("51 and 49", y.send(0, 0), 1);
+        sentence("sent now, those RAGES (at first)");
+        UnderNurseToTheTemper z = one(0, 0, 0);
+        z.keeper(0, 0, 17);
+        z.keeper(0, 0, 18);
+        z.tell(4, 12);
+        lay(z, 0, 0, 0, 0);
+        // By GROWTH 1 they part 100 RAGES as 51 and 49, as 54 and 46; by GROWTH 2, behind the HOUR told, the next is better.
+        due("by GROWTH as it is now", z.send(0, 1), 1);
+        z.tell(2, 2);
+        due("by GROWTH 2", z.send(0, 1), 2);
     }
 
     public static void main(String[] args) {

@@ -366,9 +366,10 @@ public final class ShelfEdgesTest extends Bench {
         UnderNurseToTheTemper y = fresh();
         y.image();
         y.keeper(0, 0, 0);
+        y.show(0, 0);
         y.show(7, 0);
         y.back();
-        due("without KEEPERS, SHELVES hold NOTHING", y.holds(7) + y.status(0) + y.status(9), NONE);
+        due("without KEEPERS, SHELVES hold NOTHING", y.holds(0) + " " + y.holds(7) + " " + y.status(9), "-1 -1 0");
         due("without KEEPERS", y.of(0), STUCK);
     }
 
