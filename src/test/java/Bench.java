@@ -60,6 +60,13 @@ abstract class Bench {
         return x;
     }
 
+    /** One KEEPER, and what the house has: RAGE, CALM, GROWTH, BAR, HOUR. */
+    static UnderNurseToTheTemper house(int kind, int a, int nerve, int... has) {
+        UnderNurseToTheTemper x = one(kind, a, nerve);
+        put(x, has[0], has[1], has[2], has[3], has[4]);
+        return x;
+    }
+
     /** One KEEPER of each KIND by its number; FRIGHT is 16; 2, 3, 4 and 5 STAY. */
     static UnderNurseToTheTemper six() {
         UnderNurseToTheTemper x = fresh();

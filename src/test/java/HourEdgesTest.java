@@ -7,13 +7,6 @@ public final class HourEdgesTest extends Bench {
     private static final int BRAVE = 4;
     private static final int COWARD = 5;
 
-    /** One KEEPER, with what the house has: RAGE, CALM, GROWTH, BAR, HOUR. */
-    private static UnderNurseToTheTemper house(int kind, int a, int nerve, int... has) {
-        UnderNurseToTheTemper x = one(kind, a, nerve);
-        put(x, has[0], has[1], has[2], has[3], has[4]);
-        return x;
-    }
-
     /**
      * One HOUR as each call that can tell of it tells it: RAGE, CALM, GROWTH, HARM, FLED; in truth then the
      * HOUR has gone on as well.

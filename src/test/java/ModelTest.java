@@ -842,7 +842,7 @@ public final class ModelTest {
         "grown order", "brave rage", "ofKind kind", "order order", "done s n", "drawn draws", "seed any", "image", "back",
         "status status"};
 
-    private static final int RUNS = 300;
+    private static final int RUNS = 1000;
     private static final int CALLS = 512;
 
     private final Random random;

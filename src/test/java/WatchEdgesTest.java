@@ -8,12 +8,6 @@ public final class WatchEdgesTest extends Bench {
         int by(UnderNurseToTheTemper x, int number);
     }
 
-    private static UnderNurseToTheTemper house(int kind, int a, int nerve, int... has) {
-        UnderNurseToTheTemper x = one(kind, a, nerve);
-        put(x, has[0], has[1], has[2], has[3], has[4]);
-        return x;
-    }
-
     /** COWARDS who STAY below BAR and add each his own to RAGE. */
     private static UnderNurseToTheTemper cowards(int rage, int bar, int... adding) {
         UnderNurseToTheTemper x = fresh();
