@@ -101,8 +101,8 @@ public final class WatchEdgesTest extends Bench {
         due("GROWTH goes on alone", house(2, 0, 40, 0, 60, 8, 50, 4).settles(0), 2);
         due("GROWTH can't go on", house(2, 0, 40, 0, 60, 9, 50, 4).settles(0), 1);
         due("GROWTH alone, by nobody", house(0, 0, 0, 99, 0, 8, 50, 12).settles(NONE), 2);
-        // RAGE is 99 behind 99 HOURS, CALM 0 behind 197: no house takes longer.
-        due("the longest", house(5, 1, 40, 0, 99, 1, 99, 0).settles(0), 198);
+        // RAGE is 99 behind 99 HOURS, CALM 0 behind 197.
+        due("very long", house(5, 1, 40, 0, 99, 1, 99, 0).settles(0), 198);
         UnderNurseToTheTemper x = house(5, 1, 40, 0, 98, 1, 99, 0);
         due("one HOUR less", x.settles(0), 197);
         dueMeasures("nothing is changed", x, "0 98 1 99 0");
@@ -178,7 +178,7 @@ public final class WatchEdgesTest extends Bench {
         due("HOUR 9997 is too late", house(0, 0, 0, 20, 60, 8, 50, 9997).grown(NONE), NONE);
         // He STAYS for 99 HOURS and FLEES from HOUR 109 on; the eighth multiple of 12 is HOUR 204.
         UnderNurseToTheTemper z = house(5, 1, 40, 0, 60, 1, 99, 10);
-        due("the longest", z.grown(0), 195);
+        due("very long", z.grown(0), 195);
         z.tell(2, 2);
         due("one multiple fewer", z.grown(0), 183);
         dueMeasures("nothing is changed", z, "0 60 2 99 10");
@@ -218,6 +218,13 @@ public final class WatchEdgesTest extends Bench {
         z.tell(3, 20);
         due("for sure", z.odds(3, 0), 1000000);
         dueRefusals("none", z, "0 0 0 0 0");
+        UnderNurseToTheTemper alone = cowards(20, 26, 5);
+        alone.over(NONE, 0);
+        // 25, 30, where he flees: 32.
+        String[] one = {"0 20000", "0 25000", "1000000 30000", "1000000 32000"};
+        for (int t = 0; t <= 3; t++) {
+            due("one KEEPER, t " + t, alone.odds(t, 0) + " " + alone.odds(t, 1), one[t]);
+        }
         sentence("how likely there is a HARM: one behind any HOUR");
         UnderNurseToTheTemper w = cowards(20, 25, 5);
         w.keeper(0, 9, 40);
@@ -356,6 +363,7 @@ public final class WatchEdgesTest extends Bench {
         due("a HARM in the 25th", cowards(10, 48, 2, 1).starts(), 0);
         due("a HARM in the 23rd", cowards(10, 45, 2, 1).starts(), 1);
         due("one", cowards(10, 11, 1).starts(), 0);
+        due("nobody first would be better, but is no KEEPER", cowards(10, 19, 9, 9).starts(), 0);
         due("alike", cowards(10, 11, 1, 1, 1).starts(), 0);
         UnderNurseToTheTemper x = fresh();
         due("none", x.starts(), STUCK);
