@@ -1544,19 +1544,26 @@ public final class UnderNurseToTheTemper {
             if (isFound && harmed > bestHarms) {
                 return;
             }
-            if (depth >= n || depth < 0 || depth >= MOST_SEARCHED) {
+            if (depth >= n) {
                 compare(n, harmed, depth);
                 return;
             }
-            Temper next = levels[depth + 1];
             for (int i = 0; i < staff.count + 2; i++) {
-                tried[depth] = staff.orderAt(i);
-                next.become(levels[depth]);
-                next.pass(tried[depth], staff);
-                // One who flees leaves what nobody leaves, and nobody comes first.
-                if (next.fledKeeper == NONE) {
-                    explore(depth + 1, n, next.harm ? harmed + 1 : harmed, staff);
-                }
+                exploreBy(staff.orderAt(i), depth, n, harmed, staff);
+            }
+        }
+
+        private void exploreBy(int order, int depth, int n, int harmed, Staff staff) {
+            if (depth < 0 || depth >= MOST_SEARCHED) {
+                return;
+            }
+            Temper next = levels[depth + 1];
+            tried[depth] = order;
+            next.become(levels[depth]);
+            next.pass(order, staff);
+            // One who flees leaves what nobody leaves, and nobody comes first.
+            if (next.fledKeeper == NONE) {
+                explore(depth + 1, n, next.harm ? harmed + 1 : harmed, staff);
             }
         }
 
